@@ -589,6 +589,8 @@ public final class WidowRow {
         long name = 0;
         int number = 0;
         int sign = 0;
+        int one = 0;
+        int two = 0;
         int fault = 0;
         int place = 0;
 
@@ -710,6 +712,17 @@ public final class WidowRow {
                 return NONE;
             }
             return number;
+        }
+
+        /** Does not go on over the second ones, for what both together do wrong is told there. */
+        boolean readTwoPips() {
+            one = numberTo(PIPS - 1);
+            if (one == NONE) {
+                return false;
+            }
+            step();
+            two = numberTo(PIPS - 1);
+            return two != NONE;
         }
     }
 
@@ -841,16 +854,10 @@ public final class WidowRow {
                 return t.fail(Tokens.TOO_MANY);
             }
             t.step();
-            int a = t.numberTo(PIPS - 1);
-            if (a == NONE) {
+            if (!t.readTwoPips()) {
                 return false;
             }
-            t.step();
-            int b = t.numberTo(PIPS - 1);
-            if (b == NONE) {
-                return false;
-            }
-            if (stoneWith(a, b) != NONE) {
+            if (stoneWith(t.one, t.two) != NONE) {
                 return t.fail(Tokens.NOT_ONCE);
             }
             t.step();
@@ -858,8 +865,8 @@ public final class WidowRow {
             if (w == NONE) {
                 return false;
             }
-            one[stones] = a;
-            two[stones] = b;
+            one[stones] = t.one;
+            two[stones] = t.two;
             teller[stones] = w;
             stones++;
             t.step();
@@ -882,20 +889,14 @@ public final class WidowRow {
 
         private boolean readQuarrel(Tokens t) {
             t.step();
-            int n = t.numberTo(PIPS - 1);
-            if (n == NONE) {
+            if (!t.readTwoPips()) {
                 return false;
             }
-            t.step();
-            int m = t.numberTo(PIPS - 1);
-            if (m == NONE) {
-                return false;
-            }
-            if (areAngry(n, m)) {
+            if (areAngry(t.one, t.two)) {
                 return t.fail(Tokens.NOT_ONCE);
             }
-            angry[n] |= 1 << m;
-            angry[m] |= 1 << n;
+            angry[t.one] |= 1 << t.two;
+            angry[t.two] |= 1 << t.one;
             quarrels++;
             t.step();
             return true;
@@ -1106,12 +1107,12 @@ public final class WidowRow {
             }
             if (end == 0) {
                 shiftRight();
-                line[0] = s;
-                length++;
-            } else if (length < STONES) {
-                line[length] = s;
-                length++;
             }
+            int place = end == 0 ? 0 : length;
+            if (place < STONES) {
+                line[place] = s;
+            }
+            length = Math.min(length + 1, STONES);
             where[s] = LAID;
         }
 
@@ -1686,16 +1687,10 @@ public final class WidowRow {
 
         private boolean readSeen(Tokens t, Island island) {
             t.step();
-            int a = t.numberTo(PIPS - 1);
-            if (a == NONE) {
+            if (!t.readTwoPips()) {
                 return false;
             }
-            t.step();
-            int b = t.numberTo(PIPS - 1);
-            if (b == NONE) {
-                return false;
-            }
-            int s = island.stoneWith(a, b);
+            int s = island.stoneWith(t.one, t.two);
             if (s == NONE || hasSeen(s)) {
                 return t.fail(Tokens.NOT_ONCE);
             }

@@ -42,14 +42,17 @@ final class Due {
     /** Puts a text, a sign a byte, on the tape, which is empty. */
     static void tape(WidowRow x, String text) {
         for (int i = 0; i < text.length(); i += 20) {
-            int[] five = new int[5];
-            for (int k = 0; k < 20; k++) {
-                int b = i + k < text.length() ? text.charAt(i + k) & 255 : 0;
-                five[k / 4] = five[k / 4] << 8 | b;
-            }
-            x.feed(five[0], five[1], five[2], five[3], five[4]);
+            x.feed(four(text, i), four(text, i + 4), four(text, i + 8), four(text, i + 12), four(text, i + 16));
         }
         x.end(text.length());
+    }
+
+    private static int four(String text, int from) {
+        int number = 0;
+        for (int i = from; i < from + 4; i++) {
+            number = number << 8 | (i < text.length() ? text.charAt(i) & 255 : 0);
+        }
+        return number;
     }
 
     static int island(WidowRow x, String text) {

@@ -135,6 +135,7 @@ public final class FaultsTest {
         memory("deal c 8;", 3, -6);
         memory("deal deal 1;", 1, -6);
         memory("deal a 1;deal a 8;", 3, -15);
+        memory("deal a 0;deal b 0;deal a 0;", 3, -24);
         memory("deal 1 a;", 1, -6);
         memory("seen 2 1;", 0, 1);
         memory("seen 2 2;", 3, -8);
@@ -145,6 +146,7 @@ public final class FaultsTest {
         memory("seen 1;", 1, -7);
         memory("passed a 0;passed b 0;passed a 6;", 0, 3);
         memory("passed a 0;passed b 0;passed a 0;", 3, -32);
+        memory("passed a 0;passed a 1;passed a 0;", 3, -32);
         memory("passed a 7;", 2, -10);
         memory("passed of 7;", 1, -8);
         memory("passed c 1;", 3, -8);

@@ -13,6 +13,7 @@ public final class PromisesTest {
         island();
         stoneFindWidow();
         fitsAtPips();
+        fullRow();
         whyAndLay();
         catAndTide();
         pawnRedeemWill();
@@ -193,6 +194,35 @@ public final class PromisesTest {
         due("pips right", x.pips(1), 2);
         due("pips 2", x.pips(2), NONE);
         due("pips -1", x.pips(-1), NONE);
+    }
+
+    private static void fullRow() {
+        StringBuilder isle = new StringBuilder("widow a;widow b;forgive 0;forgive 1;forgive 2;forgive 3;forgive 4;"
+                + "forgive 5;forgive 6;");
+        int told = 0;
+        for (int a = 0; a < 7; a++) {
+            for (int b = a; b < 7; b++) {
+                isle.append("stone ").append(a).append(" ").append(b).append(told % 2 == 0 ? " a;" : " b;");
+                told++;
+            }
+        }
+        WidowRow x = on(isle.toString());
+        for (int s = 0; s < 28; s++) {
+            due("full row, from the right: lay " + s, x.lay(s % 2, s, 0), 0);
+        }
+        for (int s = 0; s < 28; s++) {
+            due("at " + s, x.at(27 - s), s);
+            due("place of " + s, stone(x, s, 4), 28 - s);
+        }
+        due("write", x.write(), 111);
+        due("the last byte", x.byteAt(110), '0');
+        due("stretch", x.stretch(), 28);
+        due("nothing left", x.able(0) + x.open(1) + x.longest() + x.all() + x.greedy(), 0);
+        for (int s = 0; s < 28; s++) {
+            due("cat " + s, x.cat(1), s);
+        }
+        due("greedy lays all", x.greedy(), 28);
+        due("all in hands", x.open(0), (1 << 28) - 1);
     }
 
     // 12, 13
@@ -491,6 +521,10 @@ public final class PromisesTest {
         due("eleven in both hands", ten.game(0, 1), -2);
         ten.pawn(5);
         due("ten", ten.game(0, 1) != -2, true);
+        WidowRow later = on("widow a;widow b;stone 1 3 a;stone 2 5 b;stone 0 3 a;stone 1 4 b;stone 1 6 a;");
+        later.lay(0, 0, 0);
+        due("2 right would be nobody's: b lays 3, then neither can", later.game(0, 1), 1);
+        due("4 left leaves b nothing", later.first(), 8);
         WidowRow must = on("widow a;widow b;stone 0 1 a;stone 1 2 a;stone 2 3 a;stone 2 5 b;stone 5 6 b;");
         must.lay(0, 0, 0);
         due("she must lay", must.game(0, 1), -1);
@@ -654,6 +688,12 @@ public final class PromisesTest {
         Due.memory(x, "deal ann 3;deal bea 3;passed ann 3;passed bea 3;");
         due("nobody can have it", x.dealings(), 0);
         due("sure then", x.sure(0), 0);
+        Due.memory(x, "deal ann 3;deal bea 3;passed ann 3;passed ann 5;passed bea 0;");
+        due("each stone has one place left", x.dealings(), 0);
+        Due.memory(x, "seen 0 3;deal ann 2;deal bea 3;passed ann 3;passed ann 5;passed bea 0;");
+        due("now they have", x.dealings(), 1);
+        due("ann's", x.sure(0), 48);
+        due("bea's", x.sure(1), 7);
         WidowRow big = on("widow a;widow b;widow c;widow d;widow e;widow f;" + stones(28, "a"));
         Due.memory(big, "deal a 5;deal b 5;deal c 5;deal d 5;deal e 4;deal f 4;");
         due("all stones", big.dealings(), 2552662243097366400L);

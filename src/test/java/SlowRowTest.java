@@ -47,6 +47,30 @@ public final class SlowRowTest {
                 call();
             }
         }
+        for (int k = 0; k < 4; k++) {
+            newIsland();
+            allSearches();
+        }
+    }
+
+    /** Asks for all that has to be searched, whenever a few stones more are laid. */
+    private void allSearches() {
+        for (int k = 0; k < 4; k++) {
+            for (int w = 0; w < widows; w++) {
+                int v = (w + 1 + below(widows)) % widows;
+                due("game", x.game(w, v), y.game(w, v));
+                due("first", x.first(), y.first());
+            }
+            due("longest", x.longest(), y.longest());
+            due("all", x.all(), y.all());
+            for (int i = 0; i < 12; i++) {
+                due("longAt", x.longAt(i), y.longAt(i));
+                due("allAt", x.allAt(i), y.allAt(i));
+            }
+            due("leads", x.leads(k, 6 - k), y.leads(k, 6 - k));
+            layWell();
+            layWell();
+        }
     }
 
     private void newIsland() {
