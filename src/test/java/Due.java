@@ -69,4 +69,58 @@ final class Due {
         tape(x, text);
         return x.sentence();
     }
+
+    /** A new object with this island, which has no fault. */
+    static WidowRow on(String text) {
+        WidowRow x = new WidowRow();
+        due("island of " + text, island(x, text) >= 0, true);
+        return x;
+    }
+
+    static long stone(WidowRow x, int s, int what) {
+        return orRefused(() -> x.stone(s, what));
+    }
+
+    /** The row as write() and byteAt() tell it. */
+    static String row(WidowRow x) {
+        StringBuilder all = new StringBuilder();
+        int size = x.write();
+        for (int i = 0; i < size; i++) {
+            all.append((char) x.byteAt(i));
+        }
+        return all.toString();
+    }
+
+    static void row(String call, WidowRow x, String want) {
+        String got = row(x);
+        due(call + ": the row is '" + got + "', not '" + want + "'", got.equals(want), true);
+    }
+
+    /** Blanks, some of them 10, and then the text: so many bytes in all. */
+    static String behindBlanks(int size, String text) {
+        StringBuilder all = new StringBuilder();
+        while (all.length() < size - text.length()) {
+            all.append(all.length() % 7 == 6 ? '\n' : ' ');
+        }
+        return all.append(text).toString();
+    }
+
+    /** The lines of so many stones, 0 0, 0 1 and so on, dealt to these widows by turns. */
+    static String stones(int n, String... widows) {
+        StringBuilder all = new StringBuilder();
+        int told = 0;
+        for (int a = 0; a < 7; a++) {
+            for (int b = a; b < 7 && told < n; b++) {
+                all.append("stone ").append(a).append(" ").append(b).append(" ").append(widows[told % widows.length]);
+                all.append(";");
+                told++;
+            }
+        }
+        return all.toString();
+    }
+
+    /** The lines with which all pips fit on all others. */
+    static String allForgiven() {
+        return "forgive 0;forgive 1;forgive 2;forgive 3;forgive 4;forgive 5;forgive 6;";
+    }
 }

