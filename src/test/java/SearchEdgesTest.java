@@ -233,9 +233,15 @@ public final class SearchEdgesTest {
         due("behind 2 it leads to 1", twice.leads(2, 1), NONE);
         WidowRow row = Due.on("widow a;stone 1 2 a;stone 2 3 a;");
         row.lay(0, 0, 0);
-        due("the row does not matter", row.leads(2, 3) * 10 + row.leads(1, 2), 9);
+        due("the row does not matter", row.leads(1, 2) + row.leads(2, 3) * 10, 9);
         row.pawn(1);
         due("none of those in pawn", row.leads(2, 3), NONE);
+        WidowRow fewer = Due.on("widow a;stone 4 5 a;stone 2 6 a;stone 6 3 a;stone 2 3 a;");
+        due("2 3 by itself", fewer.leads(2, 3), 1);
+        fewer.pawn(3);
+        due("2 6, 6 3 without it", fewer.leads(2, 3), 2);
+        fewer.pawn(2);
+        due("none do", fewer.leads(2, 3), NONE);
     }
 
     // 24: NONE: more than 10 are in hands
