@@ -1459,11 +1459,15 @@ public final class WidowRow {
 
         /** False, if this was entered before: what failed once fails again. */
         private boolean enter(int state) {
+            int place = state >> 6;
             long bit = 1L << (state & 63);
-            if ((table[state >> 6] & bit) != 0) {
+            if (place < 0 || place >= table.length) {
+                return true;
+            }
+            if ((table[place] & bit) != 0) {
                 return false;
             }
-            table[state >> 6] |= bit;
+            table[place] |= bit;
             return true;
         }
     }
@@ -1545,11 +1549,15 @@ public final class WidowRow {
                 return 0;
             }
             int state = ((rest << 3 | left) << 3 | right) << 1 | turn;
+            int place = state >> 5;
             int shift = (state & 31) << 1;
-            int known = (int) (table[state >> 5] >> shift) & 3;
+            if (place < 0 || place >= table.length) {
+                return reckon(rest, left, right, turn, depth);
+            }
+            int known = (int) (table[place] >> shift) & 3;
             if (known == 0) {
                 known = 2 + reckon(rest, left, right, turn, depth);
-                table[state >> 5] |= (long) known << shift;
+                table[place] |= (long) known << shift;
             }
             return known - 2;
         }
@@ -1794,7 +1802,7 @@ public final class WidowRow {
 
         /** The stones are given by their numbers, so a sum tells which one was the last. */
         private long countWays(int sums) {
-            if (sums > table.length) {
+            if (sums < 1 || sums > table.length) {
                 return 0;
             }
             Arrays.fill(given, 0);
@@ -1803,7 +1811,7 @@ public final class WidowRow {
                 int last = giveOneMore() - 1;
                 long ways = 0;
                 for (int w = 0; w < island.widows && last >= 0 && last < size; w++) {
-                    if (given[w] > 0 && (allowed[last] >> w & 1) != 0) {
+                    if (given[w] > 0 && sum >= step[w] && (allowed[last] >> w & 1) != 0) {
                         ways += table[sum - step[w]];
                     }
                 }
